@@ -50,6 +50,7 @@ public final class PromiseTests {
         sheetsJudge();
         images();
         whatAnImageKeeps();
+        whatIsNewBehindAnImage();
         checks();
         counts();
         told();
@@ -510,6 +511,11 @@ public final class PromiseTests {
         due(0, x.dishIs(1, 7));
         x.season(1, 4);
         due(1, x.dishIs(1, 7));
+        text(x, KEEPING, "d=6");
+        for (int day = 2; day < 16; day++) {
+            due(day % 7 == 6 ? 1 : 0, x.dishIs(0, 7));
+            x.meal(0);
+        }
         text(x, KEEPING, "5");
         due(1, x.dishIs(1, 7));
         text(x, KEEPING, "0-5");
@@ -528,6 +534,8 @@ public final class PromiseTests {
         due(0, x.untell(CLAIM));
         due(4, x.law(CLAIM, 4, 0, 0));
         due(0, x.law(KEEPING, 4, 5, 0));
+        due(1, x.untell(KEEPING));
+        text(x, KEEPING, "0");
         due(1, x.untell(KEEPING));
         due(1, x.law(KEEPING, 4, 5, 0));
         due(0, x.untell(KEEPING));
@@ -722,6 +730,14 @@ public final class PromiseTests {
                 due(guest == i ? more : 0, y.dishIs(i, 2));
             }
         }
+        // The draws for a guest are made with one DISH, too.
+        LeftoverRule one = with(30, 0, 3);
+        for (int seed = 0; seed < 20; seed++) {
+            one.seed(seed);
+            one.loose(1);
+            boolean guest = (drawn(seed) >>> 8) % 4 == 0;
+            due(guest ? drawn(drawn(drawn(drawn(seed)))) : drawn(drawn(seed)), one.count(7));
+        }
         LeftoverRule late = new LeftoverRule();
         for (int i = 0; i < 166; i++) {
             late.meals(60, 0);
@@ -869,6 +885,11 @@ public final class PromiseTests {
         due(1, either.clears(2, 1, 40, 0));
         due(1, either.clears(2, 1, 40, 1));
         due(NONE, either.clears(0, 1, 99, 1));
+        // The least that can be left is enough.
+        LeftoverRule last = with(39, 1, 0, 0, 30, 0);
+        due(1, last.clears(0, 1, 0, 0));
+        due(2, last.clears(0, 1, 0, 1));
+        due(NONE, last.clears(0, 1, 1, 0));
         due(110, either.count(1));
         due(0, either.count(2));
     }
@@ -880,6 +901,10 @@ public final class PromiseTests {
         due(BEYOND, x.brings(100, 0));
         due(BEYOND, x.brings(5, -1));
         due(BEYOND, x.brings(5, 2));
+        due(2, x.brings(1, 0));
+        due(31, x.brings(1, 1));
+        due(4, x.brings(99, 0));
+        due(30 + 20 + 99, x.brings(99, 1));
         // Dish 0 keeps THE SAY: 30 in keeping with it, and 10 more by FLAVOURS 2, 3 and 4.
         due(2, x.brings(10, 0));
         due(40, x.brings(10, 1));
@@ -1326,6 +1351,31 @@ public final class PromiseTests {
         x.serve(0, 1);
         x.restore();
         due(44, x.dishIs(0, 2));
+    }
+
+    private static void whatIsNewBehindAnImage() {
+        on("32 restore, numbers that wait and new DISHES");
+        LeftoverRule x = new LeftoverRule();
+        x.image();
+        x.dish(39, 9, 0);
+        x.meals(3, 0);
+        due(3, x.dishIs(0, 3));
+        x.tell(3);
+        due(1, x.image() - 1);
+        x.check();
+        x.tell(8);
+        due(3, x.restore());
+        due(1, x.count(5));
+        due(0, x.check());
+        LeftoverRule y = new LeftoverRule();
+        y.image();
+        y.dish(39, 9, 0);
+        y.meals(3, 0);
+        due(0, y.restore());
+        due(0, y.count(0));
+        due(0, y.dish(35, 8, 1));
+        due(0, y.dishIs(0, 3));
+        due(5, y.dishIs(0, 1));
     }
 
     private static void checks() {

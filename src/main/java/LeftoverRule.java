@@ -807,35 +807,26 @@ public final class LeftoverRule {
         }
 
         int gives(int a, int b, int c) {
-            int given = a;
-            if (length > 0) {
-                given = workedOut(a, b, c);
-            } else if (ofFlavours) {
-                // In longs, for law() may ask of flavours further apart than an int tells.
-                given = Math.abs((long) a - b) < 2 ? 1 : 0;
-            }
-            return Math.max(0, Math.min(most, given));
-        }
-
-        private int workedOut(int a, int b, int c) {
+            stack[0] = withoutText(a, b);
             int top = 0;
             for (int i = 0; i < length; i++) {
                 int step = steps[i];
-                if (step < SIGN) {
-                    if (top < TAPE_ROOM) {
-                        stack[top] = step < NAME ? step : step == NAME ? a : step == NAME + 1 ? b : c;
-                        top++;
-                    }
-                } else if (step == SIGN + '!') {
-                    if (top >= 1) {
-                        stack[top - 1] = stack[top - 1] == 0 ? 1 : 0;
-                    }
-                } else if (top >= 2) {
+                if (step < SIGN && top < TAPE_ROOM) {
+                    stack[top] = step < NAME ? step : step == NAME ? a : step == NAME + 1 ? b : c;
+                    top++;
+                } else if (step == SIGN + '!' && top >= 1) {
+                    stack[top - 1] = stack[top - 1] == 0 ? 1 : 0;
+                } else if (step > SIGN && top >= 2) {
                     top--;
                     stack[top - 1] = joined(stack[top - 1], step - SIGN, stack[top]);
                 }
             }
-            return stack[0];
+            return Math.max(0, Math.min(most, stack[0]));
+        }
+
+        private int withoutText(int a, int b) {
+            // In longs, for law() may ask of flavours further apart than an int tells.
+            return ofFlavours ? Math.abs((long) a - b) < 2 ? 1 : 0 : a;
         }
 
         private static int joined(int left, int sign, int right) {
