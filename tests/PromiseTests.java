@@ -1238,8 +1238,9 @@ public final class PromiseTests {
         lay(x, 0, 32, 6, 7, 8, 9);
         due(3, x.serves(0));
         due(21, x.count(1));
-        lay(x, 0, 32, 6);
+        lay(x, 0, 32, 5);
         due(1, x.serves(0));
+        due(5 + 7 + 8, x.count(1));
         lay(x, 0, 8);
         due(0, x.serves(0));
         due(2, x.told(1) + x.told(2) - 1);
