@@ -36,7 +36,7 @@ public final class LeftoverRule {
 
     private static final int CLAIM = 0;
     private static final int KEEPING = 1;
-    private static final int USES = 2;
+    private static final int USES = KEEPING + 1;
     private static final int NAMES_OF_USE = 3;
     /** The NAMES of CLAIM, then those of KEEPING. */
     private static final char[] NAMES = {'c', 'a', 's', 'f', 'r', 'd'};
